@@ -41,6 +41,8 @@ public final class BestTest {
         checks.due("tried above, cut for the break", roof.tried(30, 0), 4);
         checks.due("tried above, waste", roof.tried(30, 1), 600);
         checks.due("the course below is as it was", Checks.slates(roof, 0), "1:25 1:25 1:25 1:5");
+        roof.course(30);
+        checks.due("a course is as if none had been tried", Checks.told(roof, 1), "30 12 12 80 4 600 -4 2");
         RoofCourses ready = Checks.laid("h60,60,9;r20,40;");
         ready.course(60);
         checks.due("ready", ready.tried(60, 0), NO);

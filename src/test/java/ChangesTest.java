@@ -5,6 +5,9 @@ public final class ChangesTest {
 
     public static void main(String[] args) {
         cutWhereNoneIsBroken();
+        cutByOneAndToOne();
+        cutOnesAreUsedUp();
+        endBelowIsNoJoint();
         noneCanBeCut();
         endingByTheLeast();
         runningOut();
@@ -43,6 +46,33 @@ public final class ChangesTest {
         checks.due("first by 11", Checks.slates(broadest, 0), "0:11 0:11 0:11 1:7");
         broadest.course(20);
         checks.due("the broadest is cut", Checks.slates(broadest, 1), "0:7 0:11 0:11 0:11");
+    }
+
+    private static void cutByOneAndToOne() {
+        RoofCourses one = Checks.laid("h30,13,9;h20,10,9;r100,40;p6,4;");
+        one.course(30);
+        one.course(20);
+        checks.due("10 cut to 9, being 4 from 13", Checks.slates(one, 1), "1:9 1:10 1:3 1:10 1:8");
+        RoofCourses least = Checks.laid("h30,28,9;h20,18,9;r100,70;p6,9;");
+        least.course(30);
+        least.course(20);
+        checks.due("18 cut to 1, being 9 from 28 at 19", Checks.slates(least, 1), "1:18 1:1 1:18 1:10 1:18 1:5");
+    }
+
+    private static void cutOnesAreUsedUp() {
+        RoofCourses roof = Checks.laid("h20,10,8;r100,40;p10,4;");
+        roof.course(20);
+        refused(roof, 20, NO);
+        roof.bring(0, 1);
+        checks.due("five are enough", roof.course(20), 5);
+        checks.due("none is left", Checks.heap(roof, 0), "20 10 0 9");
+    }
+
+    private static void endBelowIsNoJoint() {
+        RoofCourses roof = Checks.laid("h30,40,9;h20,38,9;r100,40;p6,4;");
+        roof.course(30);
+        roof.course(20);
+        checks.due("joint near the end below", Checks.slates(roof, 1), "1:38 1:2");
     }
 
     private static void noneCanBeCut() {

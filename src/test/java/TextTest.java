@@ -14,6 +14,7 @@ public final class TextTest {
         faultyHeaps();
         laying();
         layingRefused();
+        nothingOfTheOldOne();
         checks.end();
     }
 
@@ -157,5 +158,22 @@ public final class TextTest {
             checks.due("nothing changes by fault of " + text, Checks.all(roof), before);
             checks.due("undo is still there", roof.undo(), 1);
         }
+    }
+
+    private static void nothingOfTheOldOne() {
+        RoofCourses roof = Checks.laid("h60,40,7;h50,40,7;h40,40,7;h30,40,7;h25,40,7;h24,40,7;h23,40,7;h22,40,7;"
+            + "r20,40;p1,1;i9;");
+        checks.due("left of eight", roof.count(10), 56);
+        checks.due("eight lengths", roof.next(1), 60);
+        checks.due("none of eight", roof.course(21), NO);
+        checks.due("the shortest of eight", roof.course(22), 1);
+        roof.wipe();
+        Checks.write(roof, "h60,40,1;");
+        checks.due("lay one", roof.lay(), 1);
+        checks.due("counts of one", Checks.counts(roof), "1 0 100 120 6 4 0 0 0 0 1 0 9");
+        for (int l = 20; l <= 60; l++) {
+            checks.due("course " + l, roof.course(l), NO);
+        }
+        checks.due("none is next", roof.next(0), NONE);
     }
 }
