@@ -473,7 +473,7 @@ public final class RoofCourses {
         }
 
         boolean isBrokenAt(int place, int breaking) {
-            for (int k = 0; k < joints(); k++) {
+            for (int k = 0; k < size - 1; k++) {
                 if (Math.abs(edge[k] - place) < breaking) {
                     return false;
                 }
