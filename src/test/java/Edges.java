@@ -4,6 +4,7 @@ import java.nio.file.Path;
 import java.util.BitSet;
 import java.util.LinkedHashMap;
 import java.util.Map;
+import java.util.function.Function;
 import java.util.function.Supplier;
 import java.util.function.ToIntFunction;
 
@@ -13,6 +14,7 @@ import java.util.function.ToIntFunction;
  */
 final class Edges {
     private static final Path DOCUMENT = Path.of("../shared/DOC.md");
+    private static final int MOST_UNDONE = 6;
     private final Checks checks = new Checks("EdgesTest");
     private final Map<String, String> sections = new LinkedHashMap<>();
     private final Map<String, BitSet> quoted = new LinkedHashMap<>();
@@ -72,20 +74,34 @@ final class Edges {
 
     /** The call answers so, and an object of the same making that is spared it goes on just alike. */
     void leaves(String what, Supplier<RoofCourses> making, ToIntFunction<RoofCourses> call, int want) {
-        RoofCourses spared = making.get();
-        RoofCourses called = making.get();
-        due(what, call.applyAsInt(called), want);
-        due(what + " leaves everything as it was", wayBack(called), wayBack(spared));
+        due(what, call.applyAsInt(making.get()), want);
+        for (int times = 0; times <= MOST_UNDONE + 1; times++) {
+            int undone = times;
+            alike(what + ", " + times + " undone", making, call, roof -> undo(roof, undone));
+        }
+        alike(what + ", laid anew", making, call, roof -> "lay " + roof.lay());
     }
 
-    /** All there is, then all that undo and the text bring back. */
-    private static String wayBack(RoofCourses roof) {
-        StringBuilder row = new StringBuilder(Checks.all(roof));
-        row.append(" fault ").append(roof.fault()).append(" next ").append(roof.next(0)).append(' ').append(roof.next(1));
-        for (int k = 0; k < 7; k++) {
-            row.append(" undo ").append(roof.undo()).append(": ").append(Checks.all(roof));
+    private static String undo(RoofCourses roof, int times) {
+        StringBuilder row = new StringBuilder();
+        for (int k = 0; k < times; k++) {
+            row.append("undo ").append(roof.undo()).append(' ');
         }
-        return row.append(" lay ").append(roof.lay()).append(": ").append(Checks.all(roof)).toString();
+        return row.toString();
+    }
+
+    /** Of new objects each time: to go on with two would take more than the 512 calls for which all is promised. */
+    private void alike(String what, Supplier<RoofCourses> making, ToIntFunction<RoofCourses> call,
+            Function<RoofCourses, String> later) {
+        RoofCourses spared = making.get();
+        RoofCourses called = making.get();
+        call.applyAsInt(called);
+        String got = later.apply(called) + allOf(called);
+        due(what + ", everything as if the call had not been", got, later.apply(spared) + allOf(spared));
+    }
+
+    private static String allOf(RoofCourses roof) {
+        return " fault " + roof.fault() + " next " + roof.next(0) + " " + roof.next(1) + " " + Checks.all(roof);
     }
 
     void end() {
