@@ -98,7 +98,7 @@ public final class RoofCourses {
         if (roof.left[h] + n > MOST_LEFT) {
             return FULL;
         }
-        roof.left[h] += n;
+        Roof.addTo(roof.left, h, n);
         changes.add(new Change(Change.BROUGHT, roof.ground, h, n));
         return roof.left[h];
     }
@@ -622,7 +622,13 @@ public final class RoofCourses {
 
         static void addSlates(int[] left, Course of, int each) {
             for (int k = 0; k < of.size; k++) {
-                left[of.heapOf[k]] += each;
+                addTo(left, of.heapOf[k], each);
+            }
+        }
+
+        static void addTo(int[] left, int h, int slates) {
+            if (isWithin(h, 0, left.length - 1)) {
+                left[h] += slates;
             }
         }
 
@@ -747,7 +753,7 @@ public final class RoofCourses {
             } else if (kind == TAKEN_UP) {
                 roof.push(course);
             } else {
-                roof.left[heapNumber] -= slates;
+                Roof.addTo(roof.left, heapNumber, -slates);
             }
         }
     }

@@ -141,7 +141,8 @@ public final class BestTest {
             checks.due("courses by " + how, laid, more);
             checks.due("waste by " + how, roof.count(9) - waste, wasteMore);
             checks.due("ready by " + how, roof.count(8), ready);
-            itselfDue(roof, how, "0 0 " + ready);
+            String then = roof.itself(how, 0) + " " + roof.itself(how, 1) + " " + roof.itself(how, 2);
+            checks.due("nothing more by " + how, then, "0 0 " + ready);
         }
     }
 

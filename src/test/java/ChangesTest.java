@@ -112,11 +112,12 @@ public final class ChangesTest {
     }
 
     private static void lengthsGoDown() {
-        RoofCourses roof = Checks.laid("h60,40,9;h50,40,9;h20,40,9;r400,40;");
+        String text = "h60,40,9;h50,40,9;h20,40,9;r400,40;";
         int[] none = {19, 61, 0, -1, Integer.MIN_VALUE, Integer.MAX_VALUE};
         for (int l : none) {
-            refused(roof, l, BAD);
+            refused(Checks.laid(text), l, BAD);
         }
+        RoofCourses roof = Checks.laid(text);
         refused(roof, 40, NO);
         checks.due("50 first", roof.course(50), 1);
         refused(roof, 60, NO);
@@ -152,7 +153,9 @@ public final class ChangesTest {
             checks.due("course " + c, roof.course(20), 1);
         }
         checks.due("height", roof.count(7), 100);
-        refused(roof, 20, NO);
+        String before = Checks.counts(roof);
+        checks.due("a 21st", roof.course(20), NO);
+        checks.due("nothing changes by it", Checks.counts(roof), before);
         checks.due("tried", roof.tried(20, 0), NO);
         checks.due("taken up", roof.up(), 19);
         checks.due("laid again", roof.course(20), 1);

@@ -1,8 +1,13 @@
 import java.util.Random;
 
-/** All promises: runs of calls by chance (of set seeds), each answer compared with the model's. */
+/**
+ * All promises: runs of calls by chance (of set seeds), each answer compared with the model's. An object gets no more
+ * than the 512 calls for which all is promised.
+ */
 public final class ModelTest {
-    private static final int RUNS = 400, CALLS = 300;
+    private static final int RUNS = 1200, MOST_CALLS = 512;
+    /** A text takes 200 letters and three calls; beyond this none is begun, and half the runs go on to look at all. */
+    private static final int LAST_TELLING = MOST_CALLS - 203;
     private static final int[] EDGES = {Integer.MIN_VALUE, -1, 0, 1, 2, 3, 7, 8, 12, 13, 19, 20, 60, 61, 99, 100, 999,
         Integer.MAX_VALUE};
     private static final Checks checks = new Checks("ModelTest");
@@ -11,6 +16,7 @@ public final class ModelTest {
     private final RoofCourses roof = new RoofCourses();
     private final Model model = new Model();
     private final int run;
+    private int calls;
 
     private ModelTest(int run) {
         this.run = run;
@@ -28,10 +34,12 @@ public final class ModelTest {
         if (run % 8 != 0) {
             tell(run % 8 == 1 ? faultyText() : soundText());
         }
-        for (int k = 0; k < CALLS; k++) {
+        int enough = run % 2 == 0 ? LAST_TELLING : MOST_CALLS - 5;
+        while (calls <= enough) {
             one();
         }
         lookAtAll();
+        checks.due("run " + run + ", no more than 512 calls", calls <= MOST_CALLS ? 1 : 0, 1);
     }
 
     private int any(int low, int high) {
@@ -44,6 +52,7 @@ public final class ModelTest {
     }
 
     private void due(String call, int got, int want) {
+        calls++;
         checks.due("run " + run + ", " + call, got, want);
     }
 
@@ -100,7 +109,7 @@ public final class ModelTest {
         } else if (kind < 99) {
             int letter = mostly(32, 126);
             due("write " + letter, roof.write(letter), model.write(letter));
-        } else if (chance.nextInt(3) == 0) {
+        } else if (chance.nextInt(3) == 0 && calls <= LAST_TELLING) {
             tell(chance.nextBoolean() ? faultyText() : soundText());
         } else {
             due("lay", roof.lay(), model.lay());
@@ -150,16 +159,24 @@ public final class ModelTest {
         due("fault", roof.fault(), model.fault());
     }
 
+    /** As far as the calls reach, from a course by chance on. */
     private void lookAtAll() {
-        for (int what = 0; what <= 12; what++) {
+        for (int what = 0; what <= 12 && calls < MOST_CALLS; what++) {
             due("count " + what, roof.count(what), model.count(what));
         }
-        for (int c = 0; c < model.count(1); c++) {
-            for (int k = 0; k <= 60; k++) {
-                due("slate " + c + ", " + k, roof.slate(c, k, 0), model.slate(c, k, 0));
-                due("seen " + c + ", " + k, roof.slate(c, k, 1), model.slate(c, k, 1));
-                due("joint " + c + ", " + k, roof.joint(c, k), model.joint(c, k));
-            }
+        int courses = model.count(1);
+        int first = chance.nextInt(Math.max(1, courses));
+        for (int c = 0; c < courses; c++) {
+            lookAtCourse((first + c) % courses);
+        }
+    }
+
+    private void lookAtCourse(int c) {
+        int slates = model.told(c, 4);
+        for (int k = 0; k <= slates && calls + 3 <= MOST_CALLS; k++) {
+            due("slate " + c + ", " + k, roof.slate(c, k, 0), model.slate(c, k, 0));
+            due("seen " + c + ", " + k, roof.slate(c, k, 1), model.slate(c, k, 1));
+            due("joint " + c + ", " + k, roof.joint(c, k), model.joint(c, k));
         }
     }
 }
